@@ -881,8 +881,9 @@ public final class CountedLists {
         int[] ahead(int p) {
             int upTo = Math.max(0, Math.min(p, size));
             while (counted < upTo) {
-                System.arraycopy(cells[counted], 0, cells[counted + 1], 0, COUNTERS);
-                countOver(counted, cells[counted + 1]);
+                int[] line = cells[counted + 1];
+                System.arraycopy(cells[counted], 0, line, 0, COUNTERS);
+                Counting.over(line, kinds[counted], levels[counted], starts[counted]);
                 counted++;
             }
             return cells[upTo];
@@ -893,7 +894,7 @@ public final class CountedLists {
         }
 
         int ownCount(int p) {
-            return behind(p)[levels[p]];
+            return ahead(p + 1)[levels[p]];
         }
 
         int lastCounts() {
