@@ -45,6 +45,14 @@ public final class ForetoldTest {
             C.due("register of letters " + k, y.register(k), letters[k]);
         }
         C.due("of a text alone", Check.told("n0,0,0;t0,0;").register(0), Check.NONE);
+        CountedLists z = Check.told("n0,0,0;i0,0;r0,19;");
+        C.due("1 ahead of 19", z.register(0), 0);
+        z.change(1, 2, 0, 1);
+        z.put(0, 2, 0, 15);
+        z.change(1, 2, 0, 1);
+        C.due("1 ahead of 1", z.register(0), 1);
+        C.due("1 ahead of 15", z.register(1), 2);
+        C.due("15 at last", z.register(2), 0);
     }
 
     private static void bearsPromise20() {
@@ -58,6 +66,10 @@ public final class ForetoldTest {
         Check.fill(x, 1, 2, '1', '.' + 65536);
         C.due("codes of an int row", x.bears(1, 0, 1), 1);
         C.due("a code beyond all", x.bears(1, 0, 2), Check.NONE);
+        x.take(0);
+        C.due("the first of all, after a finding", x.bears(5, 0, 1) + x.bears(0, 1, 1), Check.NULL);
+        C.due("status", x.status(), 0);
+        x.undo();
         C.due("n 0", x.bears(0, 0, 0), Check.BAD);
         C.due("n 41", x.bears(0, 0, 41), Check.BAD);
         C.due("n 40", x.bears(0, 0, 40), Check.PLACE);
@@ -112,6 +124,9 @@ public final class ForetoldTest {
         // It would be 1 at 1 and at 3, both one place off.
         CountedLists z = Check.told("n0,0,0;r0,0;i0,0;i0,0;r0,0;i0,0;");
         C.due("as near on both sides: the lesser", z.nearest(2, 1), 1);
+        CountedLists first = Check.told("n0,0,0;i0,0;i0,0;");
+        C.due("the place ahead of all", first.nearest(1, 1), 0);
+        C.due("the place behind all", first.nearest(0, 2), 1);
     }
 
     private static void setsPromise23() {
@@ -134,6 +149,9 @@ public final class ForetoldTest {
         CountedLists y = Check.told("n0,0,0;t0,0;h0,0;");
         C.due("none", y.deepest(0), Check.NONE);
         C.due("none", y.deepest(1), Check.NONE);
+        CountedLists z = Check.told("n0,0,0;i0,0;i0,0;");
+        C.due("one sign", z.deepest(0), 1);
+        C.due("of paragraph 0", z.deepest(1), 0);
     }
 
     private static void whoPromise25() {
@@ -206,6 +224,34 @@ public final class ForetoldTest {
         C.due("nothing changes", Check.shown(x), "r0,5=5 i0,0=6");
     }
 
+    private static int mostDrawn(CountedLists x) {
+        int most = 0;
+        for (int seed = 1; seed <= 300; seed++) {
+            most = Math.max(most, x.drawn(60, seed, 0));
+        }
+        return most;
+    }
+
+    /** Each edit done by put and take on the sheet itself comes to what drawn tells. */
+    private static void edits() {
+        for (int seed = 2; seed < 40; seed++) {
+            CountedLists told = Check.told("n0,0,0;r0,5;h0,0;c1,7;");
+            CountedLists done = Check.told("n0,0,0;r0,5;h0,0;c1,7;");
+            long x = seed;
+            for (int n = 1; n <= 60; n++) {
+                x = x * 16807 % 2147483647;
+                int at = (int) (x / 8 % done.count(1));
+                if (x % 2 == 0 && done.count(1) < 24) {
+                    done.put(at, (int) (1 + x / 64 % 5), (int) (x / 512 % 3), (int) (x / 4096 % 21));
+                } else if (done.count(1) > 1) {
+                    done.take(at);
+                }
+                C.due("how many after " + n + " by " + seed, told.drawn(n, seed, 0), done.count(1));
+                C.due("counts after " + n + " by " + seed, told.drawn(n, seed, 1), done.count(3));
+            }
+        }
+    }
+
     private static void drawnPromise27() {
         // By seed 9 X is 151263, odd, then 394793594: a head of level 0 that begins at 16.
         CountedLists x = Check.told("n0,0,0;i0,0;");
@@ -219,6 +265,10 @@ public final class ForetoldTest {
         C.due("so that 6 is counted", y.drawn(1, 9, 1), 6);
         C.due("nothing changes", y.count(1), 3);
         C.due("no act", y.count(4), 0);
+        C.due("seed 1: X is 16807, odd", y.drawn(1, 1, 0), 2);
+        C.due("seed 999999", y.drawn(60, 999999, 0) > 0 ? 1 : 0, 1);
+        C.due("60 edits stay within 24", mostDrawn(y) <= 24 ? 1 : 0, 1);
+        edits();
         C.due("n -1", x.drawn(-1, 9, 0), Check.BAD);
         C.due("n 61", x.drawn(61, 9, 0), Check.BAD);
         C.due("seed 0", x.drawn(1, 0, 0), Check.BAD);
