@@ -80,11 +80,9 @@ public final class CountedLists {
             return BAD;
         }
         Row line = rows[row];
-        if (line.isMissing()) {
-            return found(NULL);
-        }
-        if (!line.holds(i, 1)) {
-            return found(PLACE);
+        int finding = line.findingAt(i, 1);
+        if (finding != 0) {
+            return found(finding);
         }
         line.items[i] = line.narrowed(v);
         return foundNothing(line.items[i]);
@@ -301,11 +299,9 @@ public final class CountedLists {
             return BAD;
         }
         Row line = rows[row];
-        if (line.isMissing()) {
-            return found(NULL);
-        }
-        if (!line.holds(i, n)) {
-            return found(PLACE);
+        int finding = line.findingAt(i, n);
+        if (finding != 0) {
+            return found(finding);
         }
         for (int p = 0; p < now.size; p++) {
             now.writeLabel(p, 0, trialSigns);
@@ -396,11 +392,9 @@ public final class CountedLists {
             return BAD;
         }
         Row line = rows[row];
-        if (line.isMissing()) {
-            return found(NULL);
-        }
-        if (!line.holds(i, n)) {
-            return found(PLACE);
+        int finding = line.findingAt(i, n);
+        if (finding != 0) {
+            return found(finding);
         }
         int kind = now.kinds[paragraph];
         int level = now.levels[paragraph];
@@ -704,6 +698,14 @@ public final class CountedLists {
         boolean holds(int i, int n) {
             // Not i + n, which could wrap around.
             return i >= 0 && n >= 0 && i <= size - n;
+        }
+
+        /** What is found of n items from i on; 0: nothing. */
+        int findingAt(int i, int n) {
+            if (isMissing()) {
+                return NULL;
+            }
+            return holds(i, n) ? 0 : PLACE;
         }
 
         int narrowed(int v) {

@@ -107,6 +107,9 @@ public final class ToldTest {
         fault(LAW + "i0,", 10, 1);
         fault(LAW + "i0,0;;", 12, 1);
         fault(LAW + "i0,0;7", 12, 1);
+        fault(LAW + "i0,0;" + (char) 0, 12, 1);
+        fault(LAW + "i" + (char) 1 + ",0;", 8, 1);
+        fault(LAW + "i0" + (char) 2 + "0;", 9, 1);
         fault(LAW + "i3,21;x", 8, 2);
         CountedLists x = new CountedLists();
         Check.tell(x, "n4");
