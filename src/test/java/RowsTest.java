@@ -48,7 +48,7 @@ public final class RowsTest {
         C.due("set of a row without items", x.set(4, 0, 1), Check.PLACE);
     }
 
-    /** What the items are, by the kinds of restarts that bear them. */
+    /** What the items are (0 to 20): paragraph 0 is a restart, and who tells the start that counts the item. */
     private static void dueItems(String call, CountedLists x, int row, int... items) {
         for (int i = 0; i < items.length; i++) {
             C.due(call + ", item " + i, x.who(0, 2, row, i, 1), items[i] <= 20 ? 1 << items[i] : 0);
