@@ -5,15 +5,10 @@ import java.util.Random;
 /** Drawn runs of calls, each answer held against the plain model of the document. */
 public final class ModelTest {
     private static final int RUNS = 6000, CALLS = 512;
-    private static final String[] NAMES = {
-        "row", "set", "copy", "drop", "feed", "sheet", "fault", "undo", "put", "take", "move", "change", "style",
-        "paragraph", "label", "called", "span", "register", "bears", "changed", "nearest", "sets", "deepest", "who",
-        "lost", "drawn", "image", "restore", "kind", "as", "ask", "trace", "count", "status"};
-    private static final int FEED = 4, SHEET = 5;
 
     private final Random random;
-    private final CountedLists x = new CountedLists();
-    private final PlainModel model = new PlainModel();
+    private final Answers x = new ClassAnswers();
+    private final Answers model = new ModelAnswers();
     private final List<String> told = new ArrayList<>();
     private int calls = 0;
 
@@ -36,101 +31,23 @@ public final class ModelTest {
         return most < least ? least : least + random.nextInt(most - least + 1);
     }
 
+    // Asked of the model, so that the class has no calls but those that are told.
+    private int ask(Call call, int... a) {
+        return (int) model.to(call, a);
+    }
+
+    private int many() {
+        return ask(Call.COUNT, 1);
+    }
+
     private int one() {
-        return number(0, Math.max(0, x.count(1) - 1));
+        return number(0, Math.max(0, many() - 1));
     }
 
-    private long answer(int call, int[] a) {
-        switch (call) {
-            case 0: return x.row(a[0], a[1], a[2]);
-            case 1: return x.set(a[0], a[1], a[2]);
-            case 2: return x.copy(a[0], a[1], a[2], a[3], a[4]);
-            case 3: return x.drop(a[0]);
-            case 4: return x.feed(a[0]);
-            case 5: return x.sheet();
-            case 6: return x.fault();
-            case 7: return x.undo();
-            case 8: return x.put(a[0], a[1], a[2], a[3]);
-            case 9: return x.take(a[0]);
-            case 10: return x.move(a[0], a[1]);
-            case 11: return x.change(a[0], a[1], a[2], a[3]);
-            case 12: return x.style(a[0], a[1]);
-            case 13: return x.paragraph(a[0], a[1]);
-            case 14: return x.label(a[0], a[1], a[2]);
-            case 15: return x.called(a[0], a[1], a[2]);
-            case 16: return x.span(a[0], a[1], a[2], a[3]);
-            case 17: return x.register(a[0]);
-            case 18: return x.bears(a[0], a[1], a[2]);
-            case 19: return x.changed(a[0]);
-            case 20: return x.nearest(a[0], a[1]);
-            case 21: return x.sets(a[0]);
-            case 22: return x.deepest(a[0]);
-            case 23: return x.who(a[0], a[1], a[2], a[3], a[4]);
-            case 24: return x.lost(a[0], a[1], a[2], a[3]);
-            case 25: return x.drawn(a[0], a[1], a[2]);
-            case 26: return x.image(a[0]);
-            case 27: return x.restore(a[0]);
-            case 28: return x.kind(a[0]);
-            case 29: return x.as(a[0], a[1]);
-            case 30: return x.ask(a[0], a[1]);
-            case 31: return x.trace(a[0]);
-            case 32: return x.count(a[0]);
-            default: return x.status();
-        }
-    }
-
-    private long modelAnswer(int call, int[] a) {
-        switch (call) {
-            case 0: return model.row(a[0], a[1], a[2]);
-            case 1: return model.set(a[0], a[1], a[2]);
-            case 2: return model.copy(a[0], a[1], a[2], a[3], a[4]);
-            case 3: return model.drop(a[0]);
-            case 4: return model.feed(a[0]);
-            case 5: return model.sheet();
-            case 6: return model.fault();
-            case 7: return model.undo();
-            case 8: return model.put(a[0], a[1], a[2], a[3]);
-            case 9: return model.take(a[0]);
-            case 10: return model.move(a[0], a[1]);
-            case 11: return model.change(a[0], a[1], a[2], a[3]);
-            case 12: return model.style(a[0], a[1]);
-            case 13: return model.paragraph(a[0], a[1]);
-            case 14: return model.label(a[0], a[1], a[2]);
-            case 15: return model.called(a[0], a[1], a[2]);
-            case 16: return model.span(a[0], a[1], a[2], a[3]);
-            case 17: return model.register(a[0]);
-            case 18: return model.bears(a[0], a[1], a[2]);
-            case 19: return model.changed(a[0]);
-            case 20: return model.nearest(a[0], a[1]);
-            case 21: return model.sets(a[0]);
-            case 22: return model.deepest(a[0]);
-            case 23: return model.who(a[0], a[1], a[2], a[3], a[4]);
-            case 24: return model.lost(a[0], a[1], a[2], a[3]);
-            case 25: return model.drawn(a[0], a[1], a[2]);
-            case 26: return model.image(a[0]);
-            case 27: return model.restore(a[0]);
-            case 28: return model.kind(a[0]);
-            case 29: return model.as(a[0], a[1]);
-            case 30: return model.ask(a[0], a[1]);
-            case 31: return model.trace(a[0]);
-            case 32: return model.count(a[0]);
-            default: return model.status();
-        }
-    }
-
-    private boolean same(int call, int... args) {
-        long due;
-        try {
-            due = modelAnswer(call, args);
-        } catch (PlainModel.Refused refused) {
-            due = refused.answer;
-        }
-        long got = answer(call, args);
-        StringBuilder line = new StringBuilder(NAMES[call]).append('(');
-        for (int i = 0; i < args.length; i++) {
-            line.append(i == 0 ? "" : ", ").append(args[i]);
-        }
-        told.add(line.append(") ").append(got).toString());
+    private boolean same(Call call, int... a) {
+        long due = model.to(call, a);
+        long got = x.to(call, a);
+        told.add(call.with(a) + " " + got);
         calls++;
         if (got != due) {
             System.out.println("due is " + due + " at the end of:");
@@ -173,80 +90,80 @@ public final class ModelTest {
     private boolean tell() {
         String text = sheetText();
         for (int i = 0; i < text.length() && calls < CALLS; i++) {
-            if (!same(FEED, text.charAt(i))) {
+            if (!same(Call.FEED, text.charAt(i))) {
                 return false;
             }
         }
-        return same(SHEET) && same(6);
+        return same(Call.SHEET) && same(Call.FAULT);
     }
 
     /** A row that tells a label, or the counts of the first paragraphs, so that bears and who find some. */
     private boolean fill() {
         int row = random.nextInt(8);
-        if (x.count(1) == 0) {
-            return same(0, row, random.nextInt(3), random.nextInt(41));
+        if (many() == 0) {
+            return same(Call.ROW, row, random.nextInt(3), random.nextInt(41));
         }
         boolean counts = random.nextBoolean();
         int[] items = new int[40];
         int many = 0;
         if (counts) {
-            many = 1 + random.nextInt(x.count(1));
+            many = 1 + random.nextInt(many());
             for (int p = 0; p < many; p++) {
-                items[p] = x.kind(p) < 4 ? x.paragraph(p, 2 + x.paragraph(p, 0)) : 0;
+                items[p] = ask(Call.KIND, p) < 4 ? ask(Call.PARAGRAPH, p, 2 + ask(Call.PARAGRAPH, p, 0)) : 0;
             }
         } else {
-            int p = random.nextInt(x.count(1));
-            for (; x.label(p, 0, many) >= 0; many++) {
-                items[many] = x.label(p, 0, many);
+            int p = random.nextInt(many());
+            for (; ask(Call.LABEL, p, 0, many) >= 0; many++) {
+                items[many] = ask(Call.LABEL, p, 0, many);
             }
         }
         if (random.nextInt(6) == 0) {
             items[random.nextInt(many + 1)]++;
         }
-        boolean fine = same(0, row, random.nextInt(3), many);
+        boolean fine = same(Call.ROW, row, random.nextInt(3), many);
         for (int i = 0; i < many; i++) {
-            fine = fine && same(1, row, i, items[i]);
+            fine = fine && same(Call.SET, row, i, items[i]);
         }
         for (int k = 0; k < 3; k++) {
-            fine = fine && (counts ? same(23, one(), k, row, 0, many) : same(18, row, 0, many));
+            fine = fine && (counts ? same(Call.WHO, one(), k, row, 0, many) : same(Call.BEARS, row, 0, many));
         }
         return fine;
     }
 
     private boolean any() {
-        int call = random.nextInt(NAMES.length);
-        int last = Math.max(0, x.count(1) - 1);
+        Call call = Call.values()[random.nextInt(Call.values().length)];
+        int last = Math.max(0, many() - 1);
         switch (call) {
-            case 0: return same(call, number(0, 7), number(0, 2), number(-1, 40));
-            case 1: return same(call, number(0, 7), number(0, 12), random.nextInt());
-            case 2: return same(call, number(0, 7), number(0, 6), number(0, 7), number(0, 6), number(0, 8));
-            case 3: return random.nextInt(3) != 0 || same(call, number(0, 7));
-            case 4: return random.nextInt(8) != 0 || same(call, number(0, 255));
-            case 5: return random.nextInt(8) != 0 || same(call);
-            case 8: return same(call, number(0, last + 1), number(1, 5), number(0, 2), number(0, 20));
-            case 9: return same(call, one());
-            case 10: return same(call, one(), one());
-            case 11: return same(call, one(), number(1, 5), number(0, 2), number(0, 20));
-            case 12: return same(call, number(0, 2), number(0, 3));
-            case 13: return same(call, one(), number(0, 5));
-            case 14: return same(call, one(), number(0, 2), number(0, 9));
-            case 15: return same(call, one(), one(), number(0, 9));
-            case 16: return same(call, one(), one(), number(0, 5), number(0, 1));
-            case 17: return same(call, number(0, last + 1));
-            case 18: return same(call, number(0, 7), number(0, 4), number(1, 6));
-            case 20: return same(call, one(), number(0, random.nextInt(6) == 0 ? 99 : 8));
-            case 21: return same(call, number(0, random.nextInt(6) == 0 ? 99 : 8));
-            case 23: return same(call, one(), number(0, 2), number(0, 7), number(0, 2), number(1, random.nextInt(8) + 1));
-            case 24: return same(call, one(), number(0, random.nextInt(6) == 0 ? 99 : 8), number(0, 10), number(0, 1));
-            case 25: return same(call, number(0, 60), number(1, 999999), number(0, 1));
-            case 27: return random.nextInt(4) != 0 || same(call, number(0, 1));
-            case 26: return same(call, number(0, 1));
-            case 19: case 28: return same(call, one());
-            case 22: return same(call, number(0, 1));
-            case 29: return same(call, one(), number(0, 5));
-            case 30: return same(call, one(), number(0, 1));
-            case 31: return same(call, number(0, 16));
-            case 32: return same(call, number(0, 5));
+            case ROW: return same(call, number(0, 7), number(0, 2), number(-1, 40));
+            case SET: return same(call, number(0, 7), number(0, 12), random.nextInt());
+            case COPY: return same(call, number(0, 7), number(0, 6), number(0, 7), number(0, 6), number(0, 8));
+            case DROP: return random.nextInt(3) != 0 || same(call, number(0, 7));
+            case FEED: return random.nextInt(8) != 0 || same(call, number(0, 255));
+            case SHEET: return random.nextInt(8) != 0 || same(call);
+            case PUT: return same(call, number(0, last + 1), number(1, 5), number(0, 2), number(0, 20));
+            case TAKE: return same(call, one());
+            case MOVE: return same(call, one(), one());
+            case CHANGE: return same(call, one(), number(1, 5), number(0, 2), number(0, 20));
+            case STYLE: return same(call, number(0, 2), number(0, 3));
+            case PARAGRAPH: return same(call, one(), number(0, 5));
+            case LABEL: return same(call, one(), number(0, 2), number(0, 9));
+            case CALLED: return same(call, one(), one(), number(0, 9));
+            case SPAN: return same(call, one(), one(), number(0, 5), number(0, 1));
+            case REGISTER: return same(call, number(0, last + 1));
+            case BEARS: return same(call, number(0, 7), number(0, 4), number(1, 6));
+            case NEAREST: return same(call, one(), number(0, random.nextInt(6) == 0 ? 99 : 8));
+            case SETS: return same(call, number(0, random.nextInt(6) == 0 ? 99 : 8));
+            case WHO: return same(call, one(), number(0, 2), number(0, 7), number(0, 2), number(1, random.nextInt(8) + 1));
+            case LOST: return same(call, one(), number(0, random.nextInt(6) == 0 ? 99 : 8), number(0, 10), number(0, 1));
+            case DRAWN: return same(call, number(0, 60), number(1, 999999), number(0, 1));
+            case RESTORE: return random.nextInt(4) != 0 || same(call, number(0, 1));
+            case IMAGE: return same(call, number(0, 1));
+            case CHANGED: case KIND: return same(call, one());
+            case DEEPEST: return same(call, number(0, 1));
+            case AS: return same(call, one(), number(0, 5));
+            case ASK: return same(call, one(), number(0, 1));
+            case TRACE: return same(call, number(0, 16));
+            case COUNT: return same(call, number(0, 5));
             default: return same(call);
         }
     }
