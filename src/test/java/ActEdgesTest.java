@@ -62,7 +62,7 @@ public final class ActEdgesTest {
         CountedLists x = texts(23);
         C.due("the last that there is room for", x.put(23, 1, 0, 0), 24);
         for (int place : new int[] {0, 1, 23, 24}) {
-            C.due("no room at " + place, x.put(place, 1, 0, 0), Check.FULL);
+            C.due("no room at " + place, x.put(place, 5, 2, 20), Check.FULL);
         }
         C.due("BAD place is ahead of FULL", x.put(25, 1, 0, 0), Check.BAD);
         C.due("BAD place is ahead of FULL", x.put(-1, 1, 0, 0), Check.BAD);

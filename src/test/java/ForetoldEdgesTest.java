@@ -107,8 +107,9 @@ public final class ForetoldEdgesTest {
         y.row(0, 0, 3);
         C.due("none has a label", y.bears(0, 0, 1), Check.NONE);
         CountedLists z = full();
-        Check.fill(z, 0, "43");
+        Check.fill(z, 0, "4344");
         C.due("the last of 24", z.bears(0, 0, 2), 23);
+        C.due("none of 24", z.bears(0, 2, 2), Check.NONE);
     }
 
     private static void changedNeedsTwo() {
@@ -319,6 +320,30 @@ public final class ForetoldEdgesTest {
         dueLost(x, 5, 4, 0, 1, 1);
     }
 
+    private static void lostOfAFullSheet() {
+        CountedLists x = full();
+        dueLost(x, 0, 20, 3, 7, 10);
+        dueLost(x, 23, 43, 3, 7, 10);
+        dueLost(x, 23, 24, 3, 3, 10);
+        x.change(23, 2, 0, 9);
+        dueLost(x, 23, 9, 3, 7, 10);
+        dueLost(x, 23, 43, 3, 21, 100);
+        dueLost(x, 22, 42, 3, 7, 10);
+    }
+
+    private static void lostLooksAtTheSheetAnew() {
+        CountedLists x = Check.told("n0,0,0;i0,0;r0,3;r0,5;r0,7;");
+        dueLost(x, 3, 7, 4, 3, 5);
+        x.change(0, 2, 0, 9);
+        x.change(1, 1, 0, 0);
+        dueLost(x, 1, 10, 4, 3, 5);
+        dueLost(x, 1, 2, 4, 2, 5);
+        x.change(2, 1, 0, 0);
+        x.change(3, 1, 0, 0);
+        dueLost(x, 3, 12, 4, 3, 5);
+        dueLost(x, 3, 4, 4, 2, 5);
+    }
+
     private static void lostLosesEachApart() {
         // Paragraph 2 counts 2 if both restarts of its level are lost, else 1.
         CountedLists x = Check.told("n0,0,0;r0,0;r1,1;r0,1;i1,0;");
@@ -423,6 +448,8 @@ public final class ForetoldEdgesTest {
         lostHasNumbersAndTenths();
         lostIsInLowestTerms();
         lostHasFiveRestarts();
+        lostOfAFullSheet();
+        lostLooksAtTheSheetAnew();
         lostLosesEachApart();
         drawnHasEditsAndSeeds();
         drawnStaysWithin1And24();

@@ -25,13 +25,13 @@ public final class RefusedTest {
     private Answers x;
     private Answers model;
     private List<String> sinceFresh;
-    private boolean changed;
 
     private RefusedTest(String name, State state) {
         this.name = name;
         this.state = state;
-        untouched = Visible.of(reached(new ClassAnswers()));
+        untouched = Visible.of(reached(new ModelAnswers()));
         begin();
+        look("nothing", untouched);
     }
 
     private Answers reached(Answers one) {
@@ -43,7 +43,6 @@ public final class RefusedTest {
         x = reached(new ClassAnswers());
         model = reached(new ModelAnswers());
         sinceFresh = new ArrayList<>();
-        changed = false;
     }
 
     private static void report(String what) {
@@ -53,21 +52,22 @@ public final class RefusedTest {
         }
     }
 
-    private void look() {
+    private void look(String calls, Visible due) {
         Visible got = Visible.of(x);
-        Visible due = Visible.of(model);
         if (!got.equals(due)) {
-            report(name + ": behind " + sinceFresh + " stands\n" + got + "\ndue is\n" + due);
-        }
-        if (!changed && !got.rest().equals(untouched.rest())) {
-            report(name + ": one of " + sinceFresh + " changes\n" + untouched + "\nto\n" + got);
+            report(name + ": behind " + calls + got.unlike(due));
         }
         begin();
     }
 
+    /** Behind calls that change nothing all stands as ahead of them, but for status(). */
+    private void lookAtUnchanged(long status) {
+        look(sinceFresh.toString(), new Visible(status, untouched.rest()));
+    }
+
     /** A call that acts, and was not refused, may change what is visible. */
     private static boolean mayChange(Call call, long answer) {
-        if (answer <= CountedLists.BAD && call != Call.SHEET) {
+        if (answer <= Check.BAD && answer >= Check.STORE) {
             return false;
         }
         switch (call) {
@@ -80,16 +80,24 @@ public final class RefusedTest {
     }
 
     private void one(Call call, int... a) {
+        long status = model.to(Call.STATUS);
         long due = model.to(call, a);
+        boolean changes = mayChange(call, due);
+        if (changes && !sinceFresh.isEmpty()) {
+            // What came ahead is looked at by itself, lest this call hides what it did.
+            lookAtUnchanged(status);
+            model.to(call, a);
+        }
         long got = x.to(call, a);
         calls++;
         sinceFresh.add(call.with(a));
-        changed = mayChange(call, due);
         if (got != due) {
             report(name + ": " + call.with(a) + " answered " + got + ", due is " + due);
         }
-        if (changed || sinceFresh.size() >= TOGETHER) {
-            look();
+        if (changes) {
+            look(call.with(a), Visible.of(model));
+        } else if (sinceFresh.size() >= TOGETHER) {
+            lookAtUnchanged(model.to(Call.STATUS));
         }
     }
 
@@ -115,8 +123,7 @@ public final class RefusedTest {
     }
 
     private void calls() {
-        int many = (int) x.to(Call.COUNT, 1);
-        begin();
+        int many = (int) model.to(Call.COUNT, 1);
         int[] row = {LEAST, -1, 0, 1, 2, 7, 8, GREATEST};
         int[] one = edges(0, Math.max(0, many - 1));
         int[] place = {LEAST, -1, 0, 2, 3, 39, 40, GREATEST};
@@ -161,7 +168,7 @@ public final class RefusedTest {
         all(Call.TRACE, edges(0, 16));
         all(Call.COUNT, edges(0, 5));
         all(Call.STATUS);
-        look();
+        lookAtUnchanged(model.to(Call.STATUS));
     }
 
     private static void feed(Answers x, String text) {
@@ -180,12 +187,24 @@ public final class RefusedTest {
         x.to(Call.SET, 2, 3, 9);
     }
 
-    private static void withoutSheet(Answers x) {
-        threeRows(x);
+    // So that a call that loses them is seen: each state has a fault, a finding, and, if there can be, a trace, acts.
+    private static void faultAndFinding(Answers x) {
         feed(x, "n0,5");
         x.to(Call.SHEET);
+        x.to(Call.DROP, 7);
+    }
+
+    private static void withoutSheet(Answers x) {
+        threeRows(x);
+        faultAndFinding(x);
         feed(x, "n0,0");
-        x.to(Call.SET, 0, 3, 1);
+    }
+
+    private static void withoutActs(Answers x) {
+        feed(x, "n1,2,3;t1,0;i0,9;");
+        x.to(Call.SHEET);
+        x.to(Call.ASK, 0, 1);
+        faultAndFinding(x);
     }
 
     private static void oneParagraphAndFullTape(Answers x) {
@@ -193,6 +212,9 @@ public final class RefusedTest {
         x.to(Call.SHEET);
         x.to(Call.IMAGE, 1);
         x.to(Call.ASK, 0, 0);
+        x.to(Call.PUT, 0, 5, 2, 9);
+        x.to(Call.TAKE, 0);
+        faultAndFinding(x);
         for (int n = 0; n < 26; n++) {
             feed(x, n == 0 ? "n1,1;" : "i0,0;");
         }
@@ -206,32 +228,37 @@ public final class RefusedTest {
         x.to(Call.PUT, 2, 2, 2, 9);
         x.to(Call.STYLE, 1, 3);
         x.to(Call.MOVE, 0, 4);
+        faultAndFinding(x);
         feed(x, "n0,0,0;i1");
         x.to(Call.ASK, 1, 0);
-        x.to(Call.AS, 0, 5);
     }
 
-    private static void full(Answers x) {
+    /** 24 paragraphs; each so many-th of those put in is a restart. */
+    private static void full(Answers x, int restartEach) {
         threeRows(x);
         feed(x, "n2,3,1;r0,7;i1,0;h0,2;");
         x.to(Call.SHEET);
         x.to(Call.IMAGE, 1);
         for (int n = 3; n < 24; n++) {
-            x.to(Call.PUT, n - 1, n % 4 == 0 ? 2 : 1 + n % 5, n % 3, n - 3);
+            int[] others = {1, 3, 4, 5};
+            x.to(Call.PUT, n - 1, n % restartEach == 0 ? 2 : others[n % 4], n % 3, n - 3);
         }
         for (int v = 0; v < 4; v++) {
             x.to(Call.STYLE, v % 3, v);
         }
+        x.to(Call.ASK, 0, 1);
+        faultAndFinding(x);
         feed(x, "n0,0,0;i0,0;");
-        x.to(Call.DROP, 7);
     }
 
     public static void main(String[] args) {
         new RefusedTest("a new object", x -> { }).calls();
         new RefusedTest("without a sheet", RefusedTest::withoutSheet).calls();
+        new RefusedTest("without acts", RefusedTest::withoutActs).calls();
         new RefusedTest("one paragraph, a full tape", RefusedTest::oneParagraphAndFullTape).calls();
         new RefusedTest("some of all kinds", RefusedTest::someOfAllKinds).calls();
-        new RefusedTest("full", RefusedTest::full).calls();
+        new RefusedTest("full, with more than 5 restarts", x -> full(x, 4)).calls();
+        new RefusedTest("full, with few restarts", x -> full(x, 7)).calls();
         System.out.println(calls + " calls at the edges, " + wrong + " wrong");
         if (wrong != 0) {
             System.exit(1);

@@ -16,7 +16,7 @@ public final class RoomTest {
 
     private static long callsOf(CountedLists x) {
         long sum = 0;
-        for (int i = 0; i < 40; i++) {
+        for (int i = 0; i < 30; i++) {
             sum += x.who(i % 24, i % 3, 0, 0, 24) + x.lost(i % 24, i, 3, 0) + x.drawn(60, 1 + i, 1);
             sum += x.register(i) + x.changed(i % 24) + x.nearest(i % 24, i) + x.sets(i) + x.deepest(1);
             sum += x.bears(0, 0, 5) + x.span(0, 23, 2, 1) + x.ask(i % 24, 0) + x.called(23, i % 24, 0);
@@ -30,7 +30,7 @@ public final class RoomTest {
         long before = thread.getCurrentThreadAllocatedBytes();
         sum -= callsOf(full());
         long taken = thread.getCurrentThreadAllocatedBytes() - before;
-        System.out.println("an object and 480 of its dearest calls took " + taken + " bytes");
+        System.out.println("an object and 360 of its dearest calls took " + taken + " bytes");
         if (taken > MOST_BYTES || sum != 0) {
             System.exit(1);
         }

@@ -224,6 +224,18 @@ public final class TextEdgesTest {
         due("the empty tape", "", AT, CANNOT_STAND);
     }
 
+    private static void eachTapeIsReadAnew() {
+        CountedLists x = new CountedLists();
+        C.due("a fault at an n", Check.tell(x, "n0,0,0;n"), AT - 7);
+        C.due("what is no n", Check.tell(x, "?0,0,0;i0,0;"), AT);
+        C.due("a fault at a number", Check.tell(x, "n0,0,0;i3"), AT - 8);
+        C.due("no number", Check.tell(x, "n?"), AT - 1);
+        C.due("a fault at the end", Check.tell(x, "n0"), AT - 2);
+        C.due("a sheet", Check.tell(x, "n0,0,0;i0,0;i1,0;"), 2);
+        C.due("the end at once", x.sheet(), AT);
+        C.due("a shorter sheet", Check.tell(x, "n0,0,0;t0,0;"), 1);
+    }
+
     private static void faultIsTheLatest() {
         CountedLists x = new CountedLists();
         C.due("0 before one", x.fault(), 0);
@@ -308,6 +320,7 @@ public final class TextEdgesTest {
         ofOneTokenTheLeast();
         theFirstTokenThatHasOne();
         theEndIsHowManyBytesThereAre();
+        eachTapeIsReadAnew();
         faultIsTheLatest();
         aFaultLeavesAll();
         aFaultWithoutASheetLeavesNone();

@@ -121,14 +121,14 @@ public final class ToldTest {
     }
 
     private static void undoPromise9() {
-        CountedLists x = Check.told("n0,0,0;r0,4;i1,0;i1,0;h0,0;c1,0;");
+        CountedLists x = Check.told("n0,0,0;r0,4;i1,0;h0,0;c1,0;");
         String[] shown = new String[7];
         shown[0] = Check.shown(x);
         x.put(1, 3, 2, 9);
         shown[1] = Check.shown(x);
         x.take(4);
         shown[2] = Check.shown(x);
-        x.move(0, 4);
+        x.move(0, 3);
         shown[3] = Check.shown(x);
         x.move(3, 1);
         shown[4] = Check.shown(x);
@@ -143,6 +143,10 @@ public final class ToldTest {
             C.due("shown, left " + left, Check.shown(x), shown[left]);
         }
         C.due("none is left", x.undo(), Check.STATE);
+    }
+
+    private static void undoOf24() {
+        CountedLists x = Check.told("n0,0,0;r0,4;i1,0;i1,0;h0,0;c1,0;");
         for (int i = 0; i < 30; i++) {
             x.change(0, 2, 0, i % 21);
         }
@@ -164,6 +168,7 @@ public final class ToldTest {
         sheetPromise7();
         faultPromise8();
         undoPromise9();
+        undoOf24();
         C.end();
     }
 }

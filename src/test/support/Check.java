@@ -1,4 +1,7 @@
-/** What the tests share: answers held against what is due, and sheets told by a text. */
+/**
+ * What the tests share: answers held against what is due, and sheets told by a text. Nothing is promised
+ * beyond 512 calls of an object, so helpers are sparing with them.
+ */
 final class Check {
     static final int NULL = -1000011, PLACE = -1000012, KIND = -1000013, SIZE = -1000014, STORE = -1000015;
     static final int NONE = -1000000, BAD = -1000001, STATE = -1000002, FULL = -1000003;
@@ -52,16 +55,16 @@ final class Check {
     /** The label clipped from a level on, sign by sign. */
     static String label(CountedLists x, int paragraph, int level) {
         StringBuilder signs = new StringBuilder();
-        for (int j = 0; x.label(paragraph, level, j) >= 0; j++) {
-            signs.append((char) x.label(paragraph, level, j));
+        for (int sign = x.label(paragraph, level, 0); sign >= 0; sign = x.label(paragraph, level, signs.length())) {
+            signs.append((char) sign);
         }
         return signs.toString();
     }
 
     static String called(CountedLists x, int paragraph, int from) {
         StringBuilder signs = new StringBuilder();
-        for (int j = 0; x.called(paragraph, from, j) >= 0; j++) {
-            signs.append((char) x.called(paragraph, from, j));
+        for (int sign = x.called(paragraph, from, 0); sign >= 0; sign = x.called(paragraph, from, signs.length())) {
+            signs.append((char) sign);
         }
         return signs.toString();
     }
@@ -69,7 +72,8 @@ final class Check {
     /** All that a sheet shows: kinds, levels, starts, counts and labels. */
     static String shown(CountedLists x) {
         StringBuilder all = new StringBuilder();
-        for (int p = 0; p < x.count(1); p++) {
+        int many = x.count(1);
+        for (int p = 0; p < many; p++) {
             all.append(" ircth".charAt(x.kind(p))).append(x.paragraph(p, 0)).append(',').append(x.paragraph(p, 1));
             all.append('=').append(label(x, p, 0)).append(' ');
         }

@@ -19,6 +19,18 @@ record Visible(long status, String rest) {
         return new Visible(status, all.toString());
     }
 
+    /** The first thing that is not as due. */
+    String unlike(Visible due) {
+        String[] here = rest.split("\n");
+        String[] there = due.rest.split("\n");
+        for (int i = 0; i < Math.min(here.length, there.length); i++) {
+            if (!here[i].equals(there[i])) {
+                return " stands [" + here[i] + "], due is [" + there[i] + "]";
+            }
+        }
+        return " the status is " + status + ", due is " + due.status;
+    }
+
     private static void counted(Answers x, StringBuilder all) {
         all.append("fault ").append(x.to(Call.FAULT)).append(" counts");
         for (int what = 0; what < 6; what++) {
