@@ -5,14 +5,6 @@ public final class AskedEdgesTest {
     private static final String ALL = "n0,1,2;i0,3;r1,4;c2,5;t2,6;h1,7;";
     private static final int[] NO_ONE_OF_FIVE = {LEAST, -1, 5, 6, GREATEST};
 
-    private static CountedLists full() {
-        CountedLists x = Check.told("n0,0,0;r0,20;");
-        for (int n = 1; n < 24; n++) {
-            x.put(n, 1, 0, 0);
-        }
-        return x;
-    }
-
     private static void kindOfThoseThatThereAre() {
         CountedLists x = Check.told(ALL);
         for (int one : NO_ONE_OF_FIVE) {
@@ -22,8 +14,8 @@ public final class AskedEdgesTest {
         C.due("the last", x.kind(4), 5);
         x.take(4);
         C.due("no more", x.kind(4), Check.BAD);
-        C.due("the last of 24", full().kind(23), 1);
-        C.due("none behind 24", full().kind(24), Check.BAD);
+        C.due("the last of 24", Check.upTo43(0).kind(23), 1);
+        C.due("none behind 24", Check.upTo43(0).kind(24), Check.BAD);
     }
 
     private static void asHasKinds0To5() {
@@ -73,7 +65,7 @@ public final class AskedEdgesTest {
     }
 
     private static void askAtTheLimits() {
-        CountedLists x = full();
+        CountedLists x = Check.upTo43(0);
         C.due("MARK of the first", x.ask(0, 1), 2 * (0 + 20));
         C.due("MARK of the last", x.ask(23, 1), 23 + 43);
         C.due("SIZE of the first", x.ask(0, 0), -(20 + 2 * (0 + 20)));
@@ -131,7 +123,7 @@ public final class AskedEdgesTest {
     }
 
     private static void countOfAll() {
-        CountedLists x = full();
+        CountedLists x = Check.upTo43(0);
         x.style(0, 1);
         x.style(0, 2);
         for (int row = 0; row < 8; row++) {

@@ -9,15 +9,6 @@ public final class ForetoldEdgesTest {
         return Check.told("n0,0,0;" + "r0,3;".repeat(n));
     }
 
-    /** A sheet of 24: a restart of 20, then items of its level. */
-    private static CountedLists full() {
-        CountedLists x = Check.told("n0,0,0;r0,20;");
-        for (int n = 1; n < 24; n++) {
-            x.put(n, 1, 0, 0);
-        }
-        return x;
-    }
-
     private static void dueRegister(String text, int... due) {
         CountedLists x = Check.told(text);
         for (int k = 0; k < due.length; k++) {
@@ -27,7 +18,7 @@ public final class ForetoldEdgesTest {
     }
 
     private static void registerHasSoMany() {
-        CountedLists x = full();
+        CountedLists x = Check.upTo43(0);
         for (int k : new int[] {LEAST, -1}) {
             C.due("k " + k, x.register(k), Check.BAD);
         }
@@ -106,7 +97,7 @@ public final class ForetoldEdgesTest {
         CountedLists y = Check.told("n0,0,0;t0,0;h0,0;");
         y.row(0, 0, 3);
         C.due("none has a label", y.bears(0, 0, 1), Check.NONE);
-        CountedLists z = full();
+        CountedLists z = Check.upTo43(0);
         Check.fill(z, 0, "4344");
         C.due("the last of 24", z.bears(0, 0, 2), 23);
         C.due("none of 24", z.bears(0, 2, 2), Check.NONE);
@@ -124,7 +115,7 @@ public final class ForetoldEdgesTest {
         for (int one : new int[] {LEAST, -1, 1, GREATEST}) {
             C.due("BAD is ahead of STATE", y.changed(one), Check.BAD);
         }
-        CountedLists z = full();
+        CountedLists z = Check.upTo43(0);
         C.due("all others of 24", z.changed(0), 23);
         C.due("none of 24", z.changed(23), 0);
     }
@@ -162,13 +153,13 @@ public final class ForetoldEdgesTest {
         C.due("as near: the lesser", Check.told("n0,0,0;r0,7;i0,0;i0,0;r0,7;i0,0;").nearest(2, 8), 1);
         C.due("the greater, if that is nearer", Check.told("n0,0,0;r0,7;t0,0;t0,0;i0,0;i0,0;r0,7;").nearest(4, 8), 3);
         C.due("the greater, if that is nearer", Check.told("n0,0,0;r0,7;t0,0;r0,0;i0,0;i0,0;r0,7;").nearest(4, 8), 5);
-        CountedLists x = full();
+        CountedLists x = Check.upTo43(0);
         C.due("the first of 24 at the last place", x.nearest(23, 1), 0);
         C.due("the last of 24", x.nearest(1, 43), 23);
     }
 
     private static void setsHasNumbers0To99() {
-        CountedLists x = full();
+        CountedLists x = Check.upTo43(0);
         for (int v : NO_NUMBERS) {
             C.due("v " + v, x.sets(v), Check.BAD);
         }
@@ -204,7 +195,7 @@ public final class ForetoldEdgesTest {
     }
 
     private static void whoHas1To24Items() {
-        CountedLists x = full();
+        CountedLists x = Check.upTo43(0);
         x.row(0, 2, 40);
         for (int p = 0; p < 24; p++) {
             x.set(0, p, 20 + p);
@@ -321,7 +312,7 @@ public final class ForetoldEdgesTest {
     }
 
     private static void lostOfAFullSheet() {
-        CountedLists x = full();
+        CountedLists x = Check.upTo43(0);
         dueLost(x, 0, 20, 3, 7, 10);
         dueLost(x, 23, 43, 3, 7, 10);
         dueLost(x, 23, 24, 3, 3, 10);
@@ -398,7 +389,7 @@ public final class ForetoldEdgesTest {
     }
 
     private static void drawnStaysWithin1And24() {
-        CountedLists full = full();
+        CountedLists full = Check.upTo43(0);
         CountedLists one = Check.told("n0,0,0;i0,0;");
         for (int seed = 1; seed <= 200; seed++) {
             C.due("full, one edit by " + seed, full.drawn(1, seed, 0), 23);
@@ -412,21 +403,8 @@ public final class ForetoldEdgesTest {
 
     private static void drawnDoesWhatPutAndTakeDo() {
         for (int seed : new int[] {1, 2, 3, 9, 41, 65536, 999998, 999999}) {
-            CountedLists told = full();
-            CountedLists done = full();
-            long x = seed;
-            for (int n = 1; n <= 60; n++) {
-                x = x * 16807 % 2147483647;
-                int many = done.count(1);
-                int at = (int) (x / 8 % many);
-                if (x % 2 == 0 && many < 24) {
-                    done.put(at, (int) (1 + x / 64 % 5), (int) (x / 512 % 3), (int) (x / 4096 % 21));
-                } else if (many > 1) {
-                    done.take(at);
-                }
-                C.due("how many after " + n + " by " + seed, told.drawn(n, seed, 0), done.count(1));
-                C.due("counts after " + n + " by " + seed, told.drawn(n, seed, 1), done.count(3));
-            }
+            C.dueEdits(Check.upTo43(0), Check.upTo43(0), seed);
+            C.dueEdits(Check.told("n0,0,0;h0,0;"), Check.told("n0,0,0;h0,0;"), seed);
         }
     }
 

@@ -232,23 +232,10 @@ public final class ForetoldTest {
         return most;
     }
 
-    /** Each edit done by put and take on the sheet itself comes to what drawn tells. */
     private static void edits() {
         for (int seed = 2; seed < 40; seed++) {
-            CountedLists told = Check.told("n0,0,0;r0,5;h0,0;c1,7;");
-            CountedLists done = Check.told("n0,0,0;r0,5;h0,0;c1,7;");
-            long x = seed;
-            for (int n = 1; n <= 60; n++) {
-                x = x * 16807 % 2147483647;
-                int at = (int) (x / 8 % done.count(1));
-                if (x % 2 == 0 && done.count(1) < 24) {
-                    done.put(at, (int) (1 + x / 64 % 5), (int) (x / 512 % 3), (int) (x / 4096 % 21));
-                } else if (done.count(1) > 1) {
-                    done.take(at);
-                }
-                C.due("how many after " + n + " by " + seed, told.drawn(n, seed, 0), done.count(1));
-                C.due("counts after " + n + " by " + seed, told.drawn(n, seed, 1), done.count(3));
-            }
+            String text = "n0,0,0;r0,5;h0,0;c1,7;";
+            C.dueEdits(Check.told(text), Check.told(text), seed);
         }
     }
 

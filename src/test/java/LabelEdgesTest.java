@@ -36,7 +36,8 @@ public final class LabelEdgesTest {
         String[] sorts = {"i", "r"};
         int[] own = {6, 4};
         for (int k = 0; k < 2; k++) {
-            CountedLists x = Check.told("n0,0,0;r0,5;r1,5;r2,5;" + sorts[k] + "2,4;" + sorts[k] + "1,4;" + sorts[k] + "0,4;");
+            String text = "n0,0,0;r0,5;r1,5;r2,5;?2,4;?1,4;?0,4;";
+            CountedLists x = Check.told(text.replace("?", sorts[k]));
             dueCounts("of level 2 none is deeper", x, 3, 5, 5, own[k]);
             dueCounts("of level 1 level 2 is", x, 4, 5, own[k], 0);
             dueCounts("of level 0 both are", x, 5, own[k], 0, 0);
@@ -75,15 +76,6 @@ public final class LabelEdgesTest {
         dueCounts("on from 0", x, 6, 0, 0, 1);
     }
 
-    /** A restart of 20 and 23 items count up to 43, the most that can be counted. */
-    private static CountedLists upTo43(int style) {
-        CountedLists x = Check.told("n" + style + ",0,0;r0,20;");
-        for (int n = 1; n < 24; n++) {
-            x.put(n, 1, 0, 0);
-        }
-        return x;
-    }
-
     private static void numeralsOfEachStyle() {
         String[] roman = {"0", "i", "ii", "iii", "iv", "v", "vi", "vii", "viii", "ix", "x", "xi", "xii", "xiii", "xiv",
             "xv", "xvi", "xvii", "xviii", "xix", "xx"};
@@ -102,7 +94,7 @@ public final class LabelEdgesTest {
         String[] roman = {"xx", "xxi", "xxii", "xxiii", "xxiv", "xxv", "xxvi", "xxvii", "xxviii", "xxix", "xxx", "xxxi",
             "xxxii", "xxxiii", "xxxiv", "xxxv", "xxxvi", "xxxvii", "xxxviii", "xxxix", "xl", "xli", "xlii", "xliii"};
         String letters = "t u v w x y z aa ab ac ad ae af ag ah ai aj ak al am an ao ap aq";
-        CountedLists[] x = {upTo43(0), upTo43(1), upTo43(2), upTo43(3)};
+        CountedLists[] x = {Check.upTo43(0), Check.upTo43(1), Check.upTo43(2), Check.upTo43(3)};
         for (int p = 0; p < 24; p++) {
             String small = letters.split(" ")[p];
             String[] due = {String.valueOf(20 + p), small, roman[p], small.toUpperCase()};
@@ -296,7 +288,7 @@ public final class LabelEdgesTest {
     }
 
     private static void spanOfAFullSheet() {
-        CountedLists x = upTo43(0);
+        CountedLists x = Check.upTo43(0);
         dueSpan(x, 0, 23, 0, -1, 43);
         dueSpan(x, 1, 23, 0, 0, 23);
         dueSpan(x, 23, 23, 0, 0, 1);

@@ -58,7 +58,9 @@ public final class ModelTest {
 
     private String sheetText() {
         StringBuilder text = new StringBuilder();
-        text.append('n').append(random.nextInt(4)).append(',').append(random.nextInt(4)).append(',').append(random.nextInt(4));
+        for (int level = 0; level < 3; level++) {
+            text.append(level == 0 ? 'n' : ',').append(random.nextInt(4));
+        }
         text.append(';');
         int many = random.nextInt(8) == 0 ? 15 + random.nextInt(3) : 1 + random.nextInt(15);
         String sorts = random.nextInt(4) == 0 ? "iiiiiirc" : "irctht";
@@ -153,8 +155,10 @@ public final class ModelTest {
             case BEARS: return same(call, number(0, 7), number(0, 4), number(1, 6));
             case NEAREST: return same(call, one(), number(0, random.nextInt(6) == 0 ? 99 : 8));
             case SETS: return same(call, number(0, random.nextInt(6) == 0 ? 99 : 8));
-            case WHO: return same(call, one(), number(0, 2), number(0, 7), number(0, 2), number(1, random.nextInt(8) + 1));
-            case LOST: return same(call, one(), number(0, random.nextInt(6) == 0 ? 99 : 8), number(0, 10), number(0, 1));
+            case WHO:
+                return same(call, one(), number(0, 2), number(0, 7), number(0, 2), number(1, random.nextInt(8) + 1));
+            case LOST:
+                return same(call, one(), number(0, random.nextInt(6) == 0 ? 99 : 8), number(0, 10), number(0, 1));
             case DRAWN: return same(call, number(0, 60), number(1, 999999), number(0, 1));
             case RESTORE: return random.nextInt(4) != 0 || same(call, number(0, 1));
             case IMAGE: return same(call, number(0, 1));

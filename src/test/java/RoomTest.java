@@ -2,8 +2,8 @@ import java.lang.management.ManagementFactory;
 
 /** All calls of a run live in one room: an object is small, and its calls make next to nothing. */
 public final class RoomTest {
-    // Some 7.3 million fields and elements are the whole room; an object and all its calls take far less.
-    private static final long MOST_BYTES = 200000;
+    // A room has some 7.3 million fields and elements, of four bytes or more: a quarter of it is plenty for one object.
+    private static final long MOST_BYTES = 7300000;
 
     private static CountedLists full() {
         CountedLists x = Check.told("n2,2,2;r0,17;r1,17;r2,17;i2,0;h0,0;c2,0;r2,8;r2,18;t0,0;i1,0;i0,0;");

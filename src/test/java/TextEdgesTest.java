@@ -107,8 +107,8 @@ public final class TextEdgesTest {
         String figures = "0123456789";
         String[] ahead = {"", "n", "n0", "n0,", "n0,0", "n0,0,", "n0,0,0", "n0,0,0;", "n0,0,0;i", "n0,0,0;i0",
             "n0,0,0;i0,", "n0,0,0;i0,0", "n0,0,0;i0,0;"};
-        String[] stands = {"n", figures, figures + ",", figures, figures + ",", figures, figures + ";", "ircth", figures,
-            figures + ",", figures, figures + ";", "ircth"};
+        String[] stands = {"n", figures, figures + ",", figures, figures + ",", figures, figures + ";", "ircth",
+            figures, figures + ",", figures, figures + ";", "ircth"};
         for (int k = 0; k < ahead.length; k++) {
             for (int letter = 0; letter < 256; letter++) {
                 if (stands[k].indexOf(letter) < 0) {

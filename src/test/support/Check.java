@@ -52,6 +52,32 @@ final class Check {
         return x;
     }
 
+    /** A restart of 20 and 23 items: a full sheet, that counts up to 43, the most that can be counted. */
+    static CountedLists upTo43(int style) {
+        CountedLists x = told("n" + style + ",0,0;r0,20;");
+        for (int n = 1; n < 24; n++) {
+            x.put(n, 1, 0, 0);
+        }
+        return x;
+    }
+
+    /** Each edit by a seed, done by put and take on the sheet itself, comes to what drawn tells of the other one. */
+    void dueEdits(CountedLists told, CountedLists done, int seed) {
+        long x = seed;
+        for (int n = 1; n <= 60; n++) {
+            x = x * 16807 % 2147483647;
+            int many = done.count(1);
+            int at = (int) (x / 8 % many);
+            if (x % 2 == 0 && many < 24) {
+                done.put(at, (int) (1 + x / 64 % 5), (int) (x / 512 % 3), (int) (x / 4096 % 21));
+            } else if (many > 1) {
+                done.take(at);
+            }
+            due("how many after " + n + " by " + seed, told.drawn(n, seed, 0), done.count(1));
+            due("counts after " + n + " by " + seed, told.drawn(n, seed, 1), done.count(3));
+        }
+    }
+
     /** The label clipped from a level on, sign by sign. */
     static String label(CountedLists x, int paragraph, int level) {
         StringBuilder signs = new StringBuilder();
