@@ -29,6 +29,9 @@ public final class FaceTest {
         "Exception", "static\\s*\\{", "import (?!java\\.util\\.(Arrays|ArrayList|List|Iterator);)",
         "Arrays\\.(?!copyOf\\b|copyOfRange\\b|fill\\b)", "System\\.(?!arraycopy\\b)", "protected", "package"};
 
+    private static final Set<Class<?>> STATIC_TYPES = Set.of(
+        int.class, long.class, boolean.class, char.class, String.class, int[].class, long[].class, char[].class, byte[].class);
+
     private static int wrong = 0;
 
     private static void want(boolean fits, String what) {
@@ -38,7 +41,7 @@ public final class FaceTest {
         }
     }
 
-    private static void face() {
+    private static void face() throws IllegalAccessException {
         Class<?> c = CountedLists.class;
         want(Modifier.isFinal(c.getModifiers()) && Modifier.isPublic(c.getModifiers()), "the class is public and final");
         Set<String> got = new TreeSet<>();
@@ -61,30 +64,41 @@ public final class FaceTest {
             for (var m : inside.getDeclaredMethods()) {
                 hidden.add(m.getName());
             }
-            fields(inside);
+            limits(inside);
         }
         for (String name : hidden) {
             want(!names.contains(name), "no other method bears the name " + name);
         }
-        Set<String> constants = new TreeSet<>();
-        for (var f : c.getDeclaredFields()) {
-            if (Modifier.isPublic(f.getModifiers())) {
-                constants.add(f.getName());
-            } else {
-                want(Modifier.isPrivate(f.getModifiers()), f + " is private");
-            }
-        }
-        want(constants.equals(new TreeSet<>(List.of("NONE", "BAD", "STATE", "FULL"))), "the constants are " + constants);
-        fields(c);
+        constants(c);
+        limits(c);
         want(c.getDeclaredClasses().length <= 12, "at most twelve classes");
         want(c.getConstructors().length == 1 && c.getDeclaredConstructors().length == 1, "one constructor");
     }
 
-    private static void fields(Class<?> c) {
+    private static void constants(Class<?> c) throws IllegalAccessException {
+        Set<String> constants = new TreeSet<>();
+        for (var f : c.getDeclaredFields()) {
+            if (Modifier.isPublic(f.getModifiers())) {
+                constants.add(Modifier.toString(f.getModifiers()) + " " + f.getType() + " " + f.getName() + " = " + f.get(null));
+            } else {
+                want(Modifier.isPrivate(f.getModifiers()), f + " is private");
+            }
+        }
+        String kept = "public static final int ";
+        Set<String> due = new TreeSet<>(List.of(kept + "NONE = -1000000", kept + "BAD = -1000001",
+            kept + "STATE = -1000002", kept + "FULL = -1000003"));
+        want(constants.equals(due), "the constants are " + constants);
+    }
+
+    private static void limits(Class<?> c) {
         int own = 0;
+        for (var m : c.getDeclaredMethods()) {
+            want(m.getParameterCount() <= 7, m + " has more than seven parameters");
+        }
         for (var f : c.getDeclaredFields()) {
             if (Modifier.isStatic(f.getModifiers())) {
                 want(Modifier.isFinal(f.getModifiers()), f + " is final");
+                want(STATIC_TYPES.contains(f.getType()) || f.isEnumConstant() || f.isSynthetic(), f + " is no constant");
             } else {
                 own++;
             }

@@ -2,7 +2,7 @@ import java.util.ArrayList;
 import java.util.List;
 import java.util.Random;
 
-/** Drawn runs of calls, each answer held against the plain model of the document. */
+/** Drawn runs of calls on two objects by turns, each answer held against the plain model of the document. */
 public final class ModelTest {
     private static final int RUNS = 6000, CALLS = 512;
 
@@ -172,28 +172,35 @@ public final class ModelTest {
         }
     }
 
-    private boolean run() {
-        boolean fine = true;
-        if (random.nextInt(10) != 0) {
-            fine = tell();
+    private boolean begin() {
+        return random.nextInt(10) == 0 || tell();
+    }
+
+    private boolean goesOn() {
+        return calls < CALLS - 60;
+    }
+
+    private boolean step() {
+        int way = random.nextInt(100);
+        if (way == 0 && calls < CALLS - 250) {
+            return tell();
         }
-        while (fine && calls < CALLS - 60) {
-            int way = random.nextInt(100);
-            if (way == 0 && calls < CALLS - 250) {
-                fine = tell();
-            } else if (way < 4) {
-                fine = fill();
-            } else {
-                fine = any();
-            }
+        return way < 4 ? fill() : any();
+    }
+
+    /** Two objects by turns: what one of them is told, the other one doesn't know. */
+    private static boolean runBoth(ModelTest one, ModelTest other) {
+        boolean fine = one.begin() && other.begin();
+        while (fine && (one.goesOn() || other.goesOn())) {
+            fine = (!one.goesOn() || one.step()) && (!other.goesOn() || other.step());
         }
         return fine;
     }
 
     public static void main(String[] args) {
-        for (int run = 0; run < RUNS; run++) {
-            if (!new ModelTest(run).run()) {
-                System.out.println("run " + run + " is wrong");
+        for (int run = 0; run < RUNS; run += 2) {
+            if (!runBoth(new ModelTest(run), new ModelTest(run + 1))) {
+                System.out.println("run " + run + " or the one behind it is wrong");
                 System.exit(1);
             }
         }
